@@ -87,6 +87,9 @@ public final class BondTest {
         CHECK.due("in bond", x.bond(0, 1), 9);
         x.weeks(1);
         CHECK.due("under ten nothing spoils", x.bond(0, 1), 9);
+        x.cargo(0, 9990);
+        x.weeks(1);
+        CHECK.due("100 thousandths of 9990", x.bond(3, 4), 999);
     }
 
     private static void promise17LetOut() {
@@ -170,7 +173,8 @@ public final class BondTest {
         x.weeks(3);
         x.cargo(2, 500);
         x.cargo(1, 70);
-        x.letOut(0, 100);
+        x.letOut(0, 70);
+        x.letOut(0, 30);
         x.ship(0, 60);
         x.spoil(10);
         x.weeks(2);

@@ -168,6 +168,11 @@ public final class WhatIfTest {
         x.scale(0, 4);
         x.step(1, 0, 1);
         CHECK.due("by the scale in force then", x.gain(0, 4, 60), 590);
+        x.cargo(0, 1000);
+        x.weeks(3);
+        CHECK.due("weeks gone by spoil no more: 858", x.gain(1, 3, 60), 858 * 40);
+        CHECK.due("one week on: 816", x.gain(1, 4, 60), 816 * 59);
+        CHECK.due("nothing spoils under twenty", x.gain(0, 4, 60), 590);
         x.ship(0, 10);
         CHECK.due("none in bond", x.gain(0, 4, 60), 0);
     }
@@ -227,6 +232,13 @@ public final class WhatIfTest {
         CHECK.due("just far enough", x.best(0, 6, 60), 6);
         CHECK.due("not far enough", x.best(0, 5, 60), 0);
         CHECK.due("now", x.best(0, 0, 60), 0);
+        x.scale(0, 1);
+        x.step(1, 0, 19);
+        CHECK.due("the next week", x.best(0, 1, 60), 1);
+        x.scale(0, 2);
+        x.step(2, 0, 20);
+        x.step(2, 50, 3);
+        CHECK.due("the next week, of five", x.best(0, 5, 60), 1);
         x.spoil(50);
         // At 0 1000 times 40, at 6 738 times 57; with a price of 100: 80000, 71586; of 30: 10000, 19926
         CHECK.due("spoiling makes it worse", x.best(0, 20, 100), 0);
