@@ -16,9 +16,11 @@ public final class BondEdgesTest {
         worthOfTheOnlyReturn();
         worthOfAStruckReturn();
         worthLetsTheWeekBeforeCount();
+        worthByTheScaleInForce();
         worthMayBeAnyNumber();
         otherWithoutLettingsOut();
         otherAtAllWeeks();
+        otherByAveragesThen();
         otherWithoutAStep();
         gainOfNothing();
         gainMayBeAnyNumber();
@@ -227,6 +229,27 @@ public final class BondEdgesTest {
         CHECK.due("without that of week 0 it is 60 still", x.worth(0), 0);
     }
 
+    /** "all else as it was": each letting out by the SCALE that was in force for it. */
+    private static void worthByTheScaleInForce() {
+        CornLaws x = withDuties(20, 3, 100);
+        x.scale(0, 7);
+        x.step(1, 0, 200);
+        x.step(1, 50, 100);
+        x.scale(1, 0);
+        x.step(2, 0, 9);
+        x.cargo(1, 100);
+        x.sale(0, 0, 0, 1, 60);
+        x.sale(0, 1, 0, 1, 60);
+        x.weeks(6);
+        x.letOut(0, 1);
+        x.letOut(1, 1);
+        x.weeks(1);
+        x.letOut(0, 1);
+        CHECK.due("paid 3, 9, 100", x.chest(), 112);
+        CHECK.due("without it 20, 9, 200", x.worth(0), 117);
+        CHECK.due("one scale knows but one step", x.worth(1), 0);
+    }
+
     /** A WORTH of -2 is none refused: that is the least long. */
     private static void worthMayBeAnyNumber() {
         CornLaws x = withDuties(1, 2, 10000);
@@ -276,6 +299,25 @@ public final class BondEdgesTest {
         CHECK.due("of a grain that was not let out", x.other(2), 70);
         CHECK.due("before its week too", x.other(3), 100);
         CHECK.due("what is in force stays", x.force(0, 1), 3);
+    }
+
+    /** "All by RETURNS as they were KNOWN at the WEEK of each LETTING OUT": the first of them, too. */
+    private static void otherByAveragesThen() {
+        CornLaws x = withDuties(20, 3, 100);
+        x.scale(0, 200);
+        x.step(1, 0, 200);
+        x.step(1, 60, 100);
+        x.sale(0, 0, 0, 1, 60);
+        x.weeks(5);
+        x.letOut(0, 1);
+        x.weeks(1);
+        x.letOut(0, 1);
+        x.weeks(1);
+        x.strike(0);
+        x.letOut(0, 1);
+        CHECK.due("paid 20, 3, 20", x.chest(), 43);
+        CHECK.due("by the one in force", x.other(0), 43);
+        CHECK.due("by the other: 200, 100, 200", x.other(1), 500);
     }
 
     /** "if it has no STEP, 0 is its DUTY; a GRAIN that HANGS on it, too" */

@@ -6,6 +6,7 @@ public final class EdgesTest {
         theWeekIs0AtFirst();
         swornAtTheWeek();
         struckFromTheWeekOn();
+        struckOnesAreCounted();
         knownFromSwornTillStruck();
         weeklyIsCut();
         weeklyLooksBack();
@@ -79,6 +80,22 @@ public final class EdgesTest {
         CHECK.due("struck the week after", x.strike(1), 1);
         CHECK.due("known at 0 still", x.weekly(1, 0, 0), 6);
         CHECK.due("not known at 1", x.weekly(1, 0, 1), -1);
+    }
+
+    /** "2 STRUCK ones": none at first, all in the end. */
+    private static void struckOnesAreCounted() {
+        CornLaws x = new CornLaws();
+        for (int k = 0; k < 60; k++) {
+            x.sale(k % 10, k % 3, 0, 1, 1);
+            CHECK.due("returns", x.count(1), k + 1);
+            CHECK.due("none is struck", x.count(2), 0);
+        }
+        for (int k = 0; k < 60; k++) {
+            x.strike(k);
+            x.strike(k);
+            CHECK.due("struck ones", x.count(2), k + 1);
+        }
+        CHECK.due("returns as before", x.count(1), 60);
     }
 
     /** "KNOWN at a WEEK t are RETURNS that were SWORN at t or before, and not STRUCK at t or before." */

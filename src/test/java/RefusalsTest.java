@@ -21,6 +21,7 @@ public final class RefusalsTest {
         promise10StepFull();
         promise10StepOrder();
         promise11HangNot();
+        promise11HangOfAnyTwo();
         promise11HangBadAheadOfNot();
         promise12UnhangNot();
         promise15CargoFull();
@@ -196,6 +197,26 @@ public final class RefusalsTest {
         taken("both are off", twoOnNought.andThen(x -> x.unhang(1)).andThen(x -> x.unhang(2)),
             x -> x.hang(0, 1, 5, 5), 1);
         taken("the other is off", RefusalsTest::oneOnNought, x -> x.unhang(1) * 10 + x.hang(2, 1, 5, 5), 11);
+    }
+
+    /** Whichever grain hangs on whichever: what may hang beside it, and what may not. */
+    private static void promise11HangOfAnyTwo() {
+        for (int first = 0; first < 3; first++) {
+            for (int step = 1; step <= 2; step++) {
+                int hanging = first;
+                int bearing = (first + step) % 3;
+                int third = 3 - hanging - bearing;
+                Consumer<CornLaws> before = x -> x.hang(hanging, bearing, 1, 1);
+                String pair = hanging + " on " + bearing + ": ";
+                refused(pair + "each on the other", before, x -> x.hang(bearing, hanging, 1, 1), NOT);
+                refused(pair + "the bearing one on a third", before, x -> x.hang(bearing, third, 1, 1), NOT);
+                refused(pair + "a third on the hanging one", before, x -> x.hang(third, hanging, 1, 1), NOT);
+                taken(pair + "a third on the bearing one", before, x -> x.hang(third, bearing, 1, 1), 1);
+                taken(pair + "the hanging one on a third", before, x -> x.hang(hanging, third, 1, 1), 1);
+                refused(pair + "a third hangs on none", before, x -> x.unhang(third), NOT);
+                refused(pair + "the bearing one hangs on none", before, x -> x.unhang(bearing), NOT);
+            }
+        }
     }
 
     private static void promise11HangBadAheadOfNot() {

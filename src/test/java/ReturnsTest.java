@@ -8,18 +8,14 @@ public final class ReturnsTest {
         constants();
         promise1NewObject();
         promise2Weeks();
-        promise2WeeksEndAt200();
         promise3Sale();
-        promise3SaleRefused();
         promise3SaleFull();
         promise4Strike();
         promise5Sold();
         promise6Weekly();
         promise6WeeklyAsKnownThen();
-        promise6WeeklyRefused();
         promise7Average();
         promise7AverageCutsTwice();
-        promise7AverageRefused();
         promise8Towns();
         promise25Count();
         CHECK.end();
@@ -67,19 +63,6 @@ public final class ReturnsTest {
         CHECK.due("week unmoved", x.count(0), 28);
     }
 
-    private static void promise2WeeksEndAt200() {
-        CornLaws x = new CornLaws();
-        for (int i = 1; i <= 9; i++) {
-            CHECK.due("weeks(20)", x.weeks(20), 20 * i);
-        }
-        CHECK.due("weeks(19)", x.weeks(19), 199);
-        CHECK.due("weeks(2) from 199", x.weeks(2), -2);
-        CHECK.due("week unmoved", x.count(0), 199);
-        CHECK.due("weeks(1) from 199", x.weeks(1), 200);
-        CHECK.due("weeks(1) from 200", x.weeks(1), -2);
-        CHECK.due("week is 200", x.count(0), 200);
-    }
-
     private static void promise3Sale() {
         CornLaws x = new CornLaws();
         x.weeks(4);
@@ -87,27 +70,6 @@ public final class ReturnsTest {
         CHECK.due("sale late", x.sale(9, 2, 0, 1000, 2000), 1);
         CHECK.due("the same once more", x.sale(9, 2, 0, 1000, 2000), 2);
         CHECK.due("count(1)", x.count(1), 3);
-    }
-
-    private static void promise3SaleRefused() {
-        CornLaws x = new CornLaws();
-        x.weeks(4);
-        for (int wrong : new int[] {-1, LEAST, MOST}) {
-            CHECK.due("sale of town " + wrong, x.sale(wrong, 0, 0, 1, 1), -2);
-            CHECK.due("sale of grain " + wrong, x.sale(0, wrong, 0, 1, 1), -2);
-            CHECK.due("sale for week " + wrong, x.sale(0, 0, wrong, 1, 1), -2);
-            CHECK.due("sale of quarters " + wrong, x.sale(0, 0, 0, wrong, 1), -2);
-            CHECK.due("sale at price " + wrong, x.sale(0, 0, 0, 1, wrong), -2);
-        }
-        CHECK.due("sale of town 10", x.sale(10, 0, 0, 1, 1), -2);
-        CHECK.due("sale of grain 3", x.sale(0, 3, 0, 1, 1), -2);
-        CHECK.due("sale for week 5 at 4", x.sale(0, 0, 5, 1, 1), -2);
-        CHECK.due("sale of 0 quarters", x.sale(0, 0, 0, 0, 1), -2);
-        CHECK.due("sale of 1001 quarters", x.sale(0, 0, 0, 1001, 1), -2);
-        CHECK.due("sale at price 0", x.sale(0, 0, 0, 1, 0), -2);
-        CHECK.due("sale at price 2001", x.sale(0, 0, 0, 1, 2001), -2);
-        CHECK.due("none was told", x.count(1), 0);
-        CHECK.due("the first that is told", x.sale(0, 0, 0, 1, 1), 0);
     }
 
     private static void promise3SaleFull() {
@@ -203,19 +165,6 @@ public final class ReturnsTest {
         CHECK.due("struck when sworn: never known", x.weekly(0, 2, 6), 30);
     }
 
-    private static void promise6WeeklyRefused() {
-        CornLaws x = new CornLaws();
-        x.sale(0, 0, 0, 1, 7);
-        CHECK.due("the furthest", x.weekly(0, 200, 200), 7);
-        CHECK.due("the nearest", x.weekly(0, 0, 0), 7);
-        for (int wrong : new int[] {-1, 201, LEAST, MOST}) {
-            CHECK.due("weekly for week " + wrong, x.weekly(0, wrong, 0), -2);
-            CHECK.due("weekly at " + wrong, x.weekly(0, 0, wrong), -2);
-            CHECK.due("weekly of grain " + wrong, x.weekly(wrong, 0, 0), -2);
-        }
-        CHECK.due("weekly of grain 3", x.weekly(3, 0, 0), -2);
-    }
-
     private static void promise7Average() {
         CornLaws x = new CornLaws();
         int[] prices = {10, 20, 30, 40, 50, 60, 70, 87};
@@ -250,17 +199,6 @@ public final class ReturnsTest {
         x.weeks(1);
         x.strike(x.sale(4, 0, 1, 1, 2000));
         CHECK.due("struck when sworn counts nowhere", x.average(0, 7), 11);
-    }
-
-    private static void promise7AverageRefused() {
-        CornLaws x = new CornLaws();
-        CHECK.due("none", x.average(0, 0), -1);
-        CHECK.due("none", x.average(2, 220), -1);
-        for (int wrong : new int[] {-1, 221, LEAST, MOST}) {
-            CHECK.due("average at " + wrong, x.average(0, wrong), -2);
-            CHECK.due("average of grain " + wrong, x.average(wrong, 0), -2);
-        }
-        CHECK.due("average of grain 3", x.average(3, 0), -2);
     }
 
     private static void promise8Towns() {

