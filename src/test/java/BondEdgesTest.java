@@ -34,14 +34,6 @@ public final class BondEdgesTest {
         CHECK.end();
     }
 
-    private static CornLaws atWeek(int week) {
-        CornLaws x = new CornLaws();
-        for (int left = week; left > 0; left -= 20) {
-            x.weeks(Math.min(left, 20));
-        }
-        return x;
-    }
-
     /** Grain 0 with a duty of 'low' under an average of 50, of 'high' from there on; a cargo of it. */
     private static CornLaws withDuties(int low, int high, int quarters) {
         CornLaws x = new CornLaws();
@@ -54,7 +46,7 @@ public final class BondEdgesTest {
 
     /** "they come into BOND at THE WEEK" */
     private static void cargoComesAtTheWeek() {
-        CornLaws x = atWeek(199);
+        CornLaws x = Weeks.newAt(199);
         x.spoil(100);
         x.cargo(0, 1000);
         CHECK.due("whole in its week", x.bond(0, 1), 1000);
@@ -429,7 +421,7 @@ public final class BondEdgesTest {
 
     /** "from THE WEEK on for n more WEEKS (0 .. 20)" */
     private static void bestWithinNWeeks() {
-        CornLaws x = atWeek(190);
+        CornLaws x = Weeks.newAt(190);
         x.cargo(0, 10);
         x.step(x.scale(0, 190), 0, 50);
         x.step(x.scale(0, 200), 0, 5);

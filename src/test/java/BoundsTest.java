@@ -41,12 +41,6 @@ public final class BoundsTest {
         return new Bounds(CHECK, call, before, with, LEAST_LONG);
     }
 
-    private static void toWeek(CornLaws x, int week) {
-        for (int left = week; left > 0; left -= 20) {
-            x.weeks(Math.min(left, 20));
-        }
-    }
-
     /** At week 4 something of each kind: of returns 3, of scales 2, of cargoes 2, of lettings out 1. */
     private static void some(CornLaws x) {
         x.scale(0, 0);
@@ -69,10 +63,10 @@ public final class BoundsTest {
     private static void promise2Weeks() {
         number("weeks at 0:", x -> { }, CornLaws::weeks).from(1, 1).to(20, 20);
         number("weeks at 4:", BoundsTest::some, CornLaws::weeks).from(1, 5).to(20, 24);
-        number("weeks at 180:", x -> toWeek(x, 180), CornLaws::weeks).from(1, 181).to(20, 200);
-        number("weeks at 181:", x -> toWeek(x, 181), CornLaws::weeks).from(1, 182).to(19, 200);
-        number("weeks at 199:", x -> toWeek(x, 199), CornLaws::weeks).from(1, 200).to(1, 200);
-        number("weeks at 200:", x -> toWeek(x, 200), CornLaws::weeks).refused(0).refused(1).refused(20);
+        number("weeks at 180:", x -> Weeks.goTo(x, 180), CornLaws::weeks).from(1, 181).to(20, 200);
+        number("weeks at 181:", x -> Weeks.goTo(x, 181), CornLaws::weeks).from(1, 182).to(19, 200);
+        number("weeks at 199:", x -> Weeks.goTo(x, 199), CornLaws::weeks).from(1, 200).to(1, 200);
+        number("weeks at 200:", x -> Weeks.goTo(x, 200), CornLaws::weeks).refused(0).refused(1).refused(20);
     }
 
     private static void promise3Sale() {
@@ -82,7 +76,7 @@ public final class BoundsTest {
         number("sale: quarters", BoundsTest::some, (x, n) -> x.sale(0, 0, 0, n, 1)).from(1, 3).to(1000, 3);
         number("sale: price", BoundsTest::some, (x, n) -> x.sale(0, 0, 0, 1, n)).from(1, 3).to(2000, 3);
         number("sale at 0: week", x -> { }, (x, n) -> x.sale(0, 0, n, 1, 1)).from(0, 0).to(0, 0);
-        number("sale at 200: week", x -> toWeek(x, 200), (x, n) -> x.sale(0, 0, n, 1, 1)).from(0, 0).to(200, 0);
+        number("sale at 200: week", x -> Weeks.goTo(x, 200), (x, n) -> x.sale(0, 0, n, 1, 1)).from(0, 0).to(200, 0);
     }
 
     private static void sixtyReturns(CornLaws x) {
@@ -124,7 +118,7 @@ public final class BoundsTest {
         number("towns: t", BoundsTest::some, (x, n) -> x.towns(0, n)).from(0, 2).to(200, 1);
         number("towns of none: w", x -> { }, (x, n) -> x.towns(n, 0)).from(0, 0).to(200, 0);
         Consumer<CornLaws> late = x -> {
-            toWeek(x, 200);
+            Weeks.goTo(x, 200);
             x.sale(0, 0, 200, 1, 1);
         };
         number("towns at 200: w", late, (x, n) -> x.towns(n, 200)).from(0, 0).to(200, 1);
@@ -135,7 +129,7 @@ public final class BoundsTest {
         number("scale: grain", BoundsTest::some, (x, n) -> x.scale(n, 4)).from(0, 2).to(2, 2);
         number("scale at 0: week", x -> { }, (x, n) -> x.scale(0, n)).from(0, 0).to(200, 0);
         number("scale at 4: week", BoundsTest::some, (x, n) -> x.scale(0, n)).from(4, 2).to(200, 2);
-        number("scale at 200: week", x -> toWeek(x, 200), (x, n) -> x.scale(0, n)).from(200, 0).to(200, 0);
+        number("scale at 200: week", x -> Weeks.goTo(x, 200), (x, n) -> x.scale(0, n)).from(200, 0).to(200, 0);
     }
 
     private static void eightScales(CornLaws x) {
@@ -252,7 +246,7 @@ public final class BoundsTest {
 
     private static void promise23GainOfWeek() {
         Consumer<CornLaws> atWeek200 = x -> {
-            toWeek(x, 200);
+            Weeks.goTo(x, 200);
             x.cargo(0, 7);
         };
         Consumer<CornLaws> atWeek0 = x -> x.cargo(0, 7);
@@ -264,7 +258,7 @@ public final class BoundsTest {
 
     private static void promise24Best() {
         Consumer<CornLaws> atWeek200 = x -> {
-            toWeek(x, 200);
+            Weeks.goTo(x, 200);
             x.cargo(0, 7);
         };
         number("best of none:", x -> { }, (x, n) -> x.best(n, 0, 0)).refused(-1).refused(0).refused(1);

@@ -27,18 +27,6 @@ public final class EdgesTest {
         CHECK.end();
     }
 
-    private static CornLaws atWeek(int week) {
-        CornLaws x = new CornLaws();
-        goTo(x, week);
-        return x;
-    }
-
-    private static void goTo(CornLaws x, int week) {
-        for (int now = x.count(0); now < week; now = x.count(0)) {
-            x.weeks(Math.min(week - now, 20));
-        }
-    }
-
     /** "THE WEEK is 0 at first and goes on." */
     private static void theWeekIs0AtFirst() {
         CornLaws x = new CornLaws();
@@ -53,7 +41,7 @@ public final class EdgesTest {
 
     /** "for a WEEK that is not behind THE WEEK .. it is SWORN at THE WEEK" */
     private static void swornAtTheWeek() {
-        CornLaws x = atWeek(200);
+        CornLaws x = Weeks.newAt(200);
         x.sale(0, 0, 0, 1, 1);
         x.sale(0, 0, 200, 1, 1);
         for (int k = 0; k < 2; k++) {
@@ -100,9 +88,9 @@ public final class EdgesTest {
 
     /** "KNOWN at a WEEK t are RETURNS that were SWORN at t or before, and not STRUCK at t or before." */
     private static void knownFromSwornTillStruck() {
-        CornLaws x = atWeek(5);
+        CornLaws x = Weeks.newAt(5);
         x.sale(3, 0, 1, 1, 10);
-        goTo(x, 9);
+        Weeks.goTo(x, 9);
         x.strike(0);
         for (int t : new int[] {0, 4, 5, 8, 9, 200}) {
             boolean known = t == 5 || t == 8;
@@ -133,7 +121,7 @@ public final class EdgesTest {
 
     /** "if there are none, that for WEEK w - 1 as KNOWN at t (and so on ..)" */
     private static void weeklyLooksBack() {
-        CornLaws x = atWeek(7);
+        CornLaws x = Weeks.newAt(7);
         x.sale(0, 0, 2, 1, 20);
         x.sale(0, 1, 6, 1, 99);
         x.sale(0, 0, 7, 1, 70);
@@ -156,7 +144,7 @@ public final class EdgesTest {
 
     /** "none ahead of WEEK 0" */
     private static void weeklyNoneAheadOfWeek0() {
-        CornLaws x = atWeek(1);
+        CornLaws x = Weeks.newAt(1);
         x.sale(0, 0, 0, 1, 5);
         x.sale(0, 1, 1, 1, 6);
         CHECK.due("week 0 has one", x.weekly(0, 0, 1), 5);
@@ -195,7 +183,7 @@ public final class EdgesTest {
 
     /** "none, if one of these is none" */
     private static void averageNoneIfOneIsNone() {
-        CornLaws x = atWeek(20);
+        CornLaws x = Weeks.newAt(20);
         x.sale(0, 1, 1, 1, 60);
         x.sale(0, 2, 20, 1, 70);
         CornLaws early = new CornLaws();
@@ -219,7 +207,7 @@ public final class EdgesTest {
     private static void averageAsKnownAtT() {
         CornLaws x = new CornLaws();
         x.sale(0, 0, 0, 1, 10);
-        goTo(x, 8);
+        Weeks.goTo(x, 8);
         x.sale(1, 0, 0, 1, 30);
         x.weeks(1);
         x.strike(0);
@@ -231,7 +219,7 @@ public final class EdgesTest {
 
     /** "How many TOWNS have a RETURN for WEEK w that is KNOWN at t (of any GRAIN)." */
     private static void townsOfOneWeekAlone() {
-        CornLaws x = atWeek(4);
+        CornLaws x = Weeks.newAt(4);
         CHECK.due("without any", x.towns(3, 4), 0);
         x.sale(0, 0, 3, 1, 1);
         x.sale(0, 1, 3, 1, 1);
@@ -253,7 +241,7 @@ public final class EdgesTest {
 
     /** "of a GRAIN, in force from a WEEK on (any, from THE WEEK on)" */
     private static void scaleFromAWeekOn() {
-        CornLaws x = atWeek(9);
+        CornLaws x = Weeks.newAt(9);
         int[] weeks = {9, 10, 200};
         for (int grain = 0; grain < 3; grain++) {
             x.step(x.scale(grain, weeks[grain]), 0, 5);

@@ -18,16 +18,8 @@ public final class ScalesTest {
         CHECK.end();
     }
 
-    private static CornLaws atWeek(int week) {
-        CornLaws x = new CornLaws();
-        for (int left = week; left > 0; left -= 20) {
-            x.weeks(Math.min(left, 20));
-        }
-        return x;
-    }
-
     private static void promise9Scale() {
-        CornLaws x = atWeek(30);
+        CornLaws x = Weeks.newAt(30);
         for (int wrong : new int[] {-1, 29, 201, LEAST, MOST}) {
             CHECK.due("scale from " + wrong, x.scale(0, wrong), -2);
         }
@@ -61,7 +53,7 @@ public final class ScalesTest {
     }
 
     private static void promise10StepNotNow() {
-        CornLaws x = atWeek(3);
+        CornLaws x = Weeks.newAt(3);
         x.scale(0, 3);
         x.scale(0, 5);
         CHECK.due("told at THE WEEK, for it", x.step(0, 10, 1), 1);
